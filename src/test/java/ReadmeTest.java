@@ -42,8 +42,8 @@ public final class ReadmeTest {
         for (Field field : CabacResidual.class.getFields()) {
             String name = "`" + field.getName() + "`";
             String value = String.valueOf(field.getInt(null));
-            boolean named = rows.stream().map(row -> row.split("\\|"))
-                    .anyMatch(cells -> cells[1].contains(name) && List.of(cells[2].strip().split(", ")).contains(value));
+            boolean named = rows.stream().map(row -> row.split("\\|")).anyMatch(cells ->
+                    cells[1].contains(name) && List.of(cells[2].strip().split(", ")).contains(value));
             Due.is("a row for " + name + " with " + value, named, true);
         }
     }
